@@ -57,7 +57,6 @@ public final class TrailGraph {
     private static final int LAST_EDGE_TOKEN = 5;
     private static final int THEN = 10;
     private static final int ONE_OF = 11;
-    private static final int ANY_TIMES = 12;
     private static final int ONCE_OR_MORE = 13;
     private static final int ONCE_OR_NOT = 14;
     private static final int TABLE = NODES * NODES;

@@ -14,6 +14,7 @@ final class Model {
     private static final int FULL = -2;
     private static final int MANY = -3;
     private static final long NULL = 9000000000000000000L;
+    private static final int MOST_VISITS = 60000;
 
     /** Nodes are {labels, property or null}, edges {from, to, type, weight}. */
     private Integer[][] nodes = new Integer[8][];
@@ -286,7 +287,7 @@ final class Model {
         private final long[] totals = new long[4];
         private final boolean[] someTotal = new boolean[4];
         private int least = Integer.MAX_VALUE;
-        private long visits = 0;
+        private int visits = 0;
     }
 
     private Found find() {
@@ -303,7 +304,7 @@ final class Model {
 
     private void matchPart(int part, int present, Integer[] binding, List<Integer> used, String told, Found found) {
         found.visits++;
-        if (tooMany(found)) {
+        if (tooMany(found) || found.visits > MOST_VISITS) {
             return;
         }
         if (part == parts.size()) {
@@ -397,9 +398,9 @@ final class Model {
         return tooMany(found) || found.matches.isEmpty() ? REFUSED : found.least;
     }
 
-    /** How much a query costs this model: runs with a huge one are cut short. */
-    long cost() {
-        return find().visits;
+    /** Whether the query is more than this model can answer in a short time; its answers are wrong then. */
+    boolean isBeyondReach() {
+        return find().visits > MOST_VISITS;
     }
 
     /**

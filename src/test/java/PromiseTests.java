@@ -558,7 +558,7 @@ public final class PromiseTests {
             {14}, {14, 12, 0}, {15, 12, 0}, {16}, {16, 0}, {16, 12, 0, 12, 0}, {12, 0, 12, 0}, {10, 4, 0},
             {10, 0, 4}, {12, 5}, {11, 12, 0, 0}, {10, 10, 0, 0, 0}, {13, 12, 0, 0}, {14, 0, 12, 0}, {14, 12, 0, 0},
             {12, 10}, {13, 0, 16}, {12, 1}, {10, 0, 1}, {11, 1, 0}, {13, 0, 1}, {13, 1, 0}, {15, 12, 0, 12, 3},
-            {13, 4, 4}, {13, 5, 5}, {14, 12, 0, 14, 12, 0}, repeated(16, 12), repeated(14, 12), repeated(0, 12),
+            {13, 4, 4}, {13, 5, 5}, {0, 0, 0}, {4, 0, 0}, {1005, 0, 0}, {12, 0, 16}, {12, 0, 12, 0, 14}, {12, 0, 14}, {14, 12, 0, 14, 12, 0}, repeated(16, 12), repeated(14, 12), repeated(0, 12),
         };
         for (int[] list : none) {
             condition(x, false, list);
@@ -670,7 +670,7 @@ public final class PromiseTests {
         due("spell() without tokens", x.spell(), false);
         int[][] none = {
             {0, 0}, {10}, {10, 0}, {11, 0}, {12}, {13}, {14}, {10, 0, 0, 0}, {12, 0, 0}, {15}, {16}, {16, 0},
-            {15, 0, 0}, {1000}, {10, 0, 1000}, {12, 10999}, {12, 16}, {10, 0, 15}, {11, 11, 0, 0}, repeated(10, 10),
+            {15, 0, 0}, {0, 12}, {0, 0, 10}, {0, 0, 11}, {1000}, {10, 0, 1000}, {12, 10999}, {12, 16}, {10, 0, 15}, {11, 11, 0, 0}, repeated(10, 10),
             repeated(0, 10), repeated(12, 10), repeated(12, 10, 0), repeated(14, 11, 2), {10, 10, 10, 10, 10, 1, 1, 1, 1, 1, 1},
         };
         for (int[] list : none) {
@@ -708,64 +708,68 @@ public final class PromiseTests {
         due("1352 under the condition", x.matches(), MANY);
         condition(x, true, 10, 1000, 1000);
         due("none under the condition", x.matches(), 0);
-        exactlyThousand();
+        thousand();
+        thousandAndOne();
         emptyGraph();
     }
 
-    private static void exactlyThousand() {
-        TrailGraph x = withNodes(8);
-        for (int i = 0; i < 10; i++) {
-            x.edge(0, 1, i < 5 ? 0 : 1, i);
+    private static void thousand() {
+        TrailGraph x = withNodes(5);
+        for (int i = 0; i < 8; i++) {
+            x.edge(0, 0, 0, i);
         }
-        x.edge(2, 3, 2, 0);
-        x.edge(4, 5, 2, 0);
         x.start(0, 0);
-        x.hop(1, 0, 1, 1, 1, 0);
-        x.start(0, 0);
-        x.hop(2, 0, 1, 1, 1, 0);
+        x.hop(1, 0, 1, 1, 0, 0);
+        x.start(1, 0);
         x.start(2, 0);
-        due("5 * 5 * 8", x.matches(), 200);
         x.start(3, 0);
-        due("5 * 5 * 8 * 8", x.matches(), MANY);
-        for (int node = 5; node < 8; node++) {
-            x.remove(node, true);
+        due("8 * 5 * 5 * 5 is not too many", x.matches(), 1000);
+        due("rows()", x.rows(), 125);
+        due("least()", x.least(), 0);
+        due("row(124, 3)", x.row(124, 3), 4);
+        x.set(0, 3);
+        due("total(0)", x.total(0), 3000);
+        due("total(1)", x.total(1), 600);
+        x.edge(0, 0, 0, 0);
+        due("9 * 5 * 5 * 5", x.matches(), MANY);
+        TrailGraph y = withNodes(8);
+        for (int node = 0; node < 5; node++) {
+            y.label(node, 1);
         }
-        due("5 * 5 * 5 * 5", x.matches(), 625);
-        TrailGraph y = withNodes(5);
-        for (int i = 0; i < 8; i++) {
-            y.edge(0, 1, i < 4 ? 0 : 1, 3);
+        for (int v = 0; v < 4; v++) {
+            y.start(v, v == 2 ? 0 : 1);
         }
-        y.edge(1, 2, 2, 3);
-        y.start(0, 0);
-        y.hop(3, 0, 1, 1, 1, 0);
-        y.start(2, 0);
-        y.start(3, 0);
-        due("8 * 5 * 5", y.matches(), 200);
-        y.start(0, 0);
-        y.hop(7, 2, 1, 1, 1, 0);
-        due("8 * 7 * 5 * 5", y.matches(), MANY);
-        TrailGraph z = withNodes(5);
-        for (int i = 0; i < 8; i++) {
-            z.edge(0, 0, 0, i);
+        due("1000 matches, each with its own nodes", y.matches(), 1000);
+        due("rows()", y.rows(), 1000);
+        due("row(999, 2)", y.row(999, 2), 7);
+        due("row(999, 0)", y.row(999, 0), 4);
+        due("row(1000, 0)", y.row(1000, 0), REFUSED);
+        y.set(7, 2);
+        due("total(2)", y.total(2), 250);
+    }
+
+    /** 40 trails of node 0 with 25 choices for the others, and one trail of node 1 with one choice. */
+    private static void thousandAndOne() {
+        TrailGraph x = withNodes(5);
+        for (int i = 0; i < 4; i++) {
+            x.edge(0, 0, 0, 1);
         }
-        z.start(0, 0);
-        z.hop(1, 0, 1, 1, 0, 0);
-        z.start(1, 0);
-        z.start(2, 0);
-        z.start(3, 0);
-        due("8 * 5 * 5 * 5 is 1000, not too many", z.matches(), 1000);
-        due("rows()", z.rows(), 125);
-        due("least()", z.least(), 0);
-        due("row(124, 3)", z.row(124, 3), 4);
-        z.set(0, 3);
-        due("total(0)", z.total(0), 3000);
-        due("total(1)", z.total(1), 600);
-        z.edge(0, 0, 0, 0);
-        due("9 * 5 * 5 * 5", z.matches(), MANY);
-        z.cut(3);
-        z.node(0);
-        condition(z, true, 15, 16, 13, 1, 1, 15, 13, 1, 2, 13, 1, 3);
-        due("8 * 66", z.matches(), 528);
+        x.edge(1, 1, 0, 1);
+        x.set(1, 1);
+        x.start(0, 0);
+        x.hop(1, 0, 1, 3, 0, 0);
+        x.start(1, 0);
+        x.start(2, 0);
+        condition(x, true, 15, 12, 0, 14, 13, 0, 1, 13, 1, 2);
+        due("1001 matches", x.matches(), MANY);
+        due("rows()", x.rows(), MANY);
+        due("least()", x.least(), REFUSED);
+        due("total(0)", x.total(0), NULL);
+        due("row(0, 0)", x.row(0, 0), REFUSED);
+        x.cut(4);
+        due("1000 matches", x.matches(), 1000);
+        due("rows()", x.rows(), 25);
+        due("least()", x.least(), 1);
     }
 
     private static void emptyGraph() {
@@ -1063,6 +1067,10 @@ public final class PromiseTests {
         due("the other", x.walk(1, 3), 2);
         expression(x, true, 11, 10, 0, 0, 1);
         due("the lesser of two and one", x.walk(0, 2), 1);
+        expression(x, true, 11, 14, 2, 2);
+        due("one of none and one, at node 0", x.walk(0, 0), 0);
+        expression(x, true, 11, 2, 14, 2);
+        due("one of one and none, at node 0", x.walk(0, 0), 0);
         expression(x, true, 10, 1, 0);
         due("first 1, then 0", x.walk(0, 3), 2);
         expression(x, true, 10, 0, 1);
