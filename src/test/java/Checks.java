@@ -28,6 +28,10 @@ final class Checks {
         }
     }
 
+    int checked() {
+        return checked;
+    }
+
     int wrong() {
         return wrong;
     }
